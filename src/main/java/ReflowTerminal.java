@@ -43,7 +43,7 @@ public final class ReflowTerminal {
     private static final int FLOW_CELLS = FLOW_ROWS * MAX_WIDTH;
 
     // A row takes MAX_WIDTH places at every width; those past the width stay
-    // BLANK, so that a change of the width finds nothing old there.
+    // BLANK, so that an alternate screen that grows finds nothing old there.
     private final int[] cells = new int[STORE_CELLS];
     private final boolean[] flags = new boolean[STORE_ROWS];
 

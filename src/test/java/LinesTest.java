@@ -32,6 +32,15 @@ public final class LinesTest {
         Checks.due("asking changes nothing", Checks.state(t), before);
     }
 
+    private static void nothingBehindTheLastRow() {
+        ReflowTerminal t = new ReflowTerminal(4, 2, 0);
+        Checks.type(t, "A\r\nB");
+        Checks.due("lines", t.info(ReflowTerminal.INFO_LINES), 2);
+        Checks.due("lineLength(2)", t.lineLength(2), -1);
+        Checks.due("lineChar(2, 0)", t.lineChar(2, 0), -1);
+        Checks.due("lineChar(3, 0)", t.lineChar(3, 0), -1);
+    }
+
     private static void emptyLinesAtTheEnd() {
         ReflowTerminal t = new ReflowTerminal(4, 4, 4);
         Checks.type(t, "A\n\n");
@@ -101,6 +110,7 @@ public final class LinesTest {
     public static void main(String[] args) {
         texts();
         ranges();
+        nothingBehindTheLastRow();
         emptyLinesAtTheEnd();
         blankRowsInsideALine();
         emptyWrappedLineBelowTheCursor();

@@ -101,7 +101,7 @@ public final class ModelTest {
         for (int i = -1; i <= lines; i++) {
             int length = m.lineLength(i);
             compare(label + "lineLength(" + i + ")", t.lineLength(i), length);
-            for (int j = -1; j <= length; j++) {
+            for (int j = -1; j <= Math.max(length, 0); j++) {
                 compare(label + "lineChar(" + i + ", " + j + ")", t.lineChar(i, j), m.lineChar(i, j));
             }
         }

@@ -115,10 +115,30 @@ public final class PutTest {
         fillRows(t);
         t.setScrollRegion(0, 1);
         t.setCursor(1, 0);
-        Checks.type(t, "\nX");
-        Checks.due("room in the scrollback", Checks.picture(t), "A...|^B...|X...|C...");
+        Checks.type(t, "\n");
+        Checks.due("room in the scrollback", Checks.picture(t), "A...|^B...|....|C...");
+        Checks.type(t, "X");
         Checks.type(t, "\r\nY");
         Checks.due("no room in the scrollback", Checks.picture(t), "B...|^X...|Y...|C...");
+    }
+
+    private static void greatestSizes() {
+        ReflowTerminal t = new ReflowTerminal(16, 8, 16);
+        for (int i = 0; i < 30 * 16; i++) {
+            t.put('A' + i / 16 % 26);
+        }
+        Checks.due("oldest row", Checks.row(t, -16), "GGGGGGGGGGGGGGGG>");
+        Checks.due("newest row of the scrollback", Checks.row(t, -1), "VVVVVVVVVVVVVVVV>");
+        Checks.due("last row", Checks.row(t, 7), "DDDDDDDDDDDDDDDD");
+        t.enterAlt();
+        for (int i = 0; i < 10 * 16; i++) {
+            t.put('a' + i / 16);
+        }
+        Checks.due("first row of the alternate screen", Checks.row(t, 0), "cccccccccccccccc>");
+        Checks.due("its last row", Checks.row(t, 7), "jjjjjjjjjjjjjjjj");
+        Checks.due("scrollback stays", Checks.row(t, -1), "VVVVVVVVVVVVVVVV>");
+        t.leaveAlt();
+        Checks.due("main screen stays", Checks.row(t, 7), "DDDDDDDDDDDDDDDD");
     }
 
     private static void alternateScreen() {
@@ -141,6 +161,7 @@ public final class PutTest {
         scrollback();
         regions();
         fullScrollbackWithRegion();
+        greatestSizes();
         alternateScreen();
         Checks.finish();
     }

@@ -131,6 +131,29 @@ public final class ResizeTest {
         Checks.due("main", Checks.picture(t) + " " + Checks.cursor(t), "^ABCDEF>|GHIJKL|......|...... 1,5");
     }
 
+    private static void savedCursorMoves() {
+        ReflowTerminal t = new ReflowTerminal(8, 4, 2);
+        Checks.type(t, "ABCDEFGHIJKLMN");
+        t.enterAlt();
+        Checks.type(t, "uvwxyz12345678901");
+        Checks.due("before", Checks.picture(t), "^uvwxyz12>|34567890>|1.......|........");
+        resized(t, 4, 4, 0, "^uvwx|3456|1...|.... 2,1");
+        Checks.due("main cursor goes down", Checks.mainCursor(t), "3,2");
+        resized(t, 16, 4, 0, "^uvwx............|3456............|1...............|................ 2,1");
+        Checks.due("main cursor goes up", Checks.mainCursor(t), "0,14");
+        t.leaveAlt();
+        Checks.due("cursor after leaving", Checks.cursor(t), "0,14");
+    }
+
+    private static void savedPendingGoes() {
+        ReflowTerminal t = new ReflowTerminal(4, 2, 2);
+        Checks.type(t, "ABCD");
+        t.enterAlt();
+        Checks.due("resize(4, 2)", t.resize(4, 2), 0);
+        t.leaveAlt();
+        Checks.due("cursor after leaving", Checks.cursor(t), "0,3");
+    }
+
     private static void alternateCursorInside() {
         ReflowTerminal t = new ReflowTerminal(6, 3, 0);
         t.enterAlt();
@@ -174,6 +197,8 @@ public final class ResizeTest {
         pendingGoes();
         clamping();
         alternateMode();
+        savedCursorMoves();
+        savedPendingGoes();
         alternateCursorInside();
         alternateAfterMainResize();
         greatestReflow();
