@@ -1,4 +1,7 @@
-/** Long mixed runs, the same on every start, in which every query is compared with the model after each call. */
+/**
+ * Long mixed runs, the same on every start, compared with the model: the rows, the cursor and the infos after each
+ * call, the texts of the lines after every twelfth, since they take the longest.
+ */
 public final class ModelTest {
     private static final int RUNS = 1500;
     private static final int CALLS = 120;
