@@ -38,28 +38,44 @@ public final class FaceTest {
         return found;
     }
 
-    private static Set<String> visibleConstants() throws IllegalAccessException {
+    private static int valueOf(Field constant) {
+        try {
+            return constant.getInt(null);
+        } catch (IllegalAccessException hidden) {
+            return -1;
+        }
+    }
+
+    private static Set<String> visibleConstants() {
         Set<String> found = new TreeSet<>();
         for (Field f : ReflowTerminal.class.getDeclaredFields()) {
             if (!Modifier.isPrivate(f.getModifiers())) {
                 Checks.due(f.getName() + " is a public constant", f.getModifiers(),
                     Modifier.PUBLIC | Modifier.STATIC | Modifier.FINAL);
                 Checks.due("type of " + f.getName(), f.getType(), int.class);
-                found.add(f.getName() + "=" + f.getInt(null));
+                found.add(f.getName() + "=" + valueOf(f));
             }
         }
         return found;
     }
 
-    public static void main(String[] args) throws IllegalAccessException {
+    private static void constants() {
+        Checks.due("constants", visibleConstants(), CONSTANTS);
+    }
+
+    private static void members() {
         Class<?> face = ReflowTerminal.class;
         Checks.due("modifiers of the class", face.getModifiers(), Modifier.PUBLIC | Modifier.FINAL);
         Checks.due("methods", visibleMethods(), METHODS);
-        Checks.due("constants", visibleConstants(), CONSTANTS);
         Constructor<?>[] constructors = face.getDeclaredConstructors();
         Checks.due("number of constructors", constructors.length, 1);
         Checks.due("constructor is public", constructors[0].getModifiers(), Modifier.PUBLIC);
         Checks.due("constructor", parameters(constructors[0].getParameterTypes()), "(int,int,int)");
+    }
+
+    public static void main(String[] args) {
+        Checks.sentence("Public constants", FaceTest::constants);
+        Checks.sentence("The public face", FaceTest::members);
         Checks.finish();
     }
 }

@@ -1,122 +1,120 @@
-/** Promise 11: lineLength and lineChar, over the LOGICAL LINES. */
+/** Promise 11: lineLength and lineChar. */
 public final class LinesTest {
-    private static void texts() {
-        ReflowTerminal t = new ReflowTerminal(4, 4, 4);
-        Checks.type(t, "ABCDEF\r\n\r\n G ");
-        Checks.due("lines", Checks.lines(t), "ABCDEF||.G@2,3");
-        Checks.due("length with inner blanks", t.lineLength(2), 2);
-        Checks.due("empty line", t.lineLength(1), 0);
-        Checks.due("inner blank", t.lineChar(2, 0), 32);
-        Checks.type(t, "\r\nHIJKLMN");
-        Checks.due("over the scrollback", Checks.picture(t), "ABCD>|EF..|^....|.G..|HIJK>|LMN.");
-        Checks.due("lines", Checks.lines(t), "ABCDEF||.G|HIJKLMN@3,7");
+    private static final int LOW = Integer.MIN_VALUE;
+    private static final int HIGH = Integer.MAX_VALUE;
+
+    // Lines 0 to 3: "ABCDEF" over two rows, an empty one, " G", "H"; below them rows that are no lines.
+    private static ReflowTerminal inMain() {
+        ReflowTerminal t = Checks.drawn("ABCD>|^EF..|....|.G..|H...|....|....", 2, 0, 0);
+        Checks.pendingIn(t, 3);
+        return t;
     }
 
-    private static void ranges() {
-        ReflowTerminal t = new ReflowTerminal(4, 4, 4);
-        Checks.type(t, "ABCDEF\r\nG");
-        int[] wrongLines = {-1, 2, 3, Integer.MIN_VALUE, Integer.MAX_VALUE};
-        int[] wrongPlaces = {-1, 6, 7, 8, Integer.MIN_VALUE, Integer.MAX_VALUE};
-        String before = Checks.state(t);
-        for (int i : wrongLines) {
-            Checks.due("lineLength(" + i + ")", t.lineLength(i), -1);
-            Checks.due("lineChar(" + i + ", 0)", t.lineChar(i, 0), -1);
-            Checks.due("lineChar(" + i + ", " + i + ")", t.lineChar(i, i), -1);
+    private static ReflowTerminal inAlternate() {
+        ReflowTerminal t = inMain();
+        t.enterAlt();
+        Checks.type(t, "uvwxyz");
+        return t;
+    }
+
+    private static void lengths() {
+        int[] due = {6, 0, 2, 1};
+        for (int i = 0; i < due.length; i++) {
+            Checks.due("lineLength(" + i + ")", inMain().lineLength(i), due[i]);
         }
-        for (int j : wrongPlaces) {
-            Checks.due("lineChar(0, " + j + ")", t.lineChar(0, j), -1);
+    }
+
+    private static void wrongLines() {
+        for (int i : new int[] {-1, 4, -2, 5, 6, 7, 8, 24, 25, LOW, LOW + 1, HIGH - 1, HIGH}) {
+            Checks.due("lineLength(" + i + ")", inMain().lineLength(i), -1);
+            Checks.due("lineLength(" + i + ") in alternate mode", inAlternate().lineLength(i), -1);
         }
-        Checks.due("last character", t.lineChar(0, 5), (int) 'F');
-        Checks.due("only character", t.lineChar(1, 0), (int) 'G');
-        Checks.due("behind it", t.lineChar(1, 1), -1);
-        Checks.due("asking changes nothing", Checks.state(t), before);
+    }
+
+    private static void removedLines() {
+        ReflowTerminal t = Checks.drawn("^A...|....|....", 0, 1, 0);
+        Checks.due("the empty cursor line", t.lineLength(1), 0);
+        Checks.due("the empty line behind it", t.lineLength(2), -1);
+        t.setCursor(0, 0);
+        Checks.due("with the cursor above", t.lineLength(1), -1);
     }
 
     private static void nothingBehindTheLastRow() {
-        ReflowTerminal t = new ReflowTerminal(4, 2, 0);
-        Checks.type(t, "A\r\nB");
-        Checks.due("lines", t.info(ReflowTerminal.INFO_LINES), 2);
+        ReflowTerminal t = Checks.typed(4, 2, 0, "A\r\nB");
         Checks.due("lineLength(2)", t.lineLength(2), -1);
         Checks.due("lineChar(2, 0)", t.lineChar(2, 0), -1);
         Checks.due("lineChar(3, 0)", t.lineChar(3, 0), -1);
     }
 
-    private static void emptyLinesAtTheEnd() {
-        ReflowTerminal t = new ReflowTerminal(4, 4, 4);
-        Checks.type(t, "A\n\n");
-        Checks.due("down to the cursor's line", Checks.lines(t), "A||@2,1");
-        t.setCursor(0, 3);
-        Checks.due("cursor at the top", Checks.lines(t), "A@0,3");
-        t.setCursor(3, 0);
-        Checks.due("cursor at the end", Checks.lines(t), "A|||@3,0");
-        t.setCursor(2, 1);
-        Checks.type(t, "B");
-        t.setCursor(1, 0);
-        Checks.due("text below the cursor", Checks.lines(t), "A||.B@1,0");
-        Checks.due("first line that was removed", t.lineLength(3), -1);
-    }
-
-    private static void blankRowsInsideALine() {
-        ReflowTerminal t = new ReflowTerminal(4, 4, 0);
-        Checks.type(t, "ABCDEFGHI");
-        t.setCursor(1, 3);
-        t.eraseInLine(ReflowTerminal.EL_TO_START);
-        Checks.due("a blank wrapped row", Checks.lines(t), "ABCD....I@0,7");
-        t.setCursor(2, 2);
-        t.eraseInLine(ReflowTerminal.EL_TO_START);
-        Checks.due("blank rows at its end", Checks.lines(t), "ABCD@0,10");
-        t.setCursor(3, 1);
-        Checks.due("the cursor in the next line", Checks.lines(t), "ABCD|@1,1");
-    }
-
-    private static void emptyWrappedLineBelowTheCursor() {
-        ReflowTerminal t = new ReflowTerminal(4, 4, 0);
-        Checks.type(t, "A\r\nBCDEF");
-        for (int row = 1; row <= 2; row++) {
-            t.setCursor(row, 3);
-            t.eraseInLine(ReflowTerminal.EL_TO_START);
+    private static void characters() {
+        String text = "ABCDEF";
+        for (int j = 0; j < text.length(); j++) {
+            Checks.due("lineChar(0, " + j + ")", inMain().lineChar(0, j), (int) text.charAt(j));
         }
-        t.setCursor(0, 0);
-        Checks.due("picture", Checks.picture(t), "^A...|....>|....|....");
-        Checks.due("it is removed as one", Checks.lines(t), "A@0,0");
-        t.setCursor(2, 1);
-        Checks.due("it stays as one", Checks.lines(t), "A|@1,5");
+        Checks.due("a blank before the text", inMain().lineChar(2, 0), 32);
+        Checks.due("behind the blank", inMain().lineChar(2, 1), (int) 'G');
+        Checks.due("the only character", inMain().lineChar(3, 0), (int) 'H');
     }
 
-    private static void flagOfTheLastRow() {
-        ReflowTerminal t = new ReflowTerminal(4, 3, 0);
-        t.setScrollRegion(0, 1);
-        t.setCursor(2, 0);
-        Checks.type(t, "ABCDE");
-        Checks.due("picture", Checks.picture(t), "^....|....|EBCD>");
-        Checks.due("it is not asked", Checks.lines(t), "||EBCD@2,1");
+    private static void wrongLineOfAChar() {
+        for (int i : new int[] {-1, 4, -2, 5, 6, 7, 8, 24, LOW, HIGH}) {
+            for (int j : new int[] {-1, 0, 1, i, LOW, HIGH}) {
+                Checks.due("lineChar(" + i + ", " + j + ")", inMain().lineChar(i, j), -1);
+            }
+        }
     }
 
-    private static void lineCutAtTheFront() {
-        ReflowTerminal t = new ReflowTerminal(4, 2, 1);
-        Checks.type(t, "ABCDEFGHIJKLM\r\nN");
-        Checks.due("picture", Checks.picture(t), "IJKL>|^M...|N...");
-        Checks.due("the rest of the line", Checks.lines(t), "IJKLM|N@1,1");
+    private static void wrongPlaces() {
+        int[] lengths = {6, 0, 2, 1};
+        for (int i = 0; i < lengths.length; i++) {
+            for (int j : new int[] {-1, lengths[i], lengths[i] + 1, 8, 16, 400, LOW, LOW + 1, HIGH}) {
+                Checks.due("lineChar(" + i + ", " + j + ")", inMain().lineChar(i, j), -1);
+                Checks.due("lineChar(" + i + ", " + j + ") in alternate mode", inAlternate().lineChar(i, j), -1);
+            }
+        }
     }
 
-    private static void alternateMode() {
-        ReflowTerminal t = new ReflowTerminal(4, 2, 2);
-        Checks.type(t, "ABCDE\r\nF");
-        t.enterAlt();
-        Checks.type(t, "uvwxyz");
-        Checks.due("the main buffer's lines", Checks.lines(t), "ABCDE|F@1,1");
+    private static void longestLine() {
+        ReflowTerminal t = new ReflowTerminal(16, 8, 16);
+        for (int i = 0; i < 24 * 16; i++) {
+            t.put(33 + i % 90);
+        }
+        Checks.due("length", t.lineLength(0), 384);
+        Checks.due("last character", t.lineChar(0, 383), 33 + 383 % 90);
+        Checks.due("behind it", t.lineChar(0, 384), -1);
+        Checks.due("line 1", t.lineLength(1), -1);
+    }
+
+    private static void eitherMode() {
+        ReflowTerminal t = inAlternate();
+        Checks.due("lines", Checks.lines(t), "ABCDEF||.G|H@3,3");
+        Checks.due("length of line 0", t.lineLength(0), 6);
+        Checks.due("its first character", t.lineChar(0, 0), (int) 'A');
+    }
+
+    private static void nothingChanges() {
+        for (int i : new int[] {LOW, -1, 0, 1, 3, 4, HIGH}) {
+            Checks.changesNothing("lineLength(" + i + ")", LinesTest::inMain, t -> t.lineLength(i));
+            Checks.changesNothing("lineLength(" + i + ")", LinesTest::inAlternate, t -> t.lineLength(i));
+            Checks.changesNothing("lineChar(" + i + ", 0)", LinesTest::inMain, t -> t.lineChar(i, 0));
+            Checks.changesNothing("lineChar(0, " + i + ")", LinesTest::inMain, t -> t.lineChar(0, i));
+            Checks.changesNothing("lineChar(" + i + ", 0)", LinesTest::inAlternate, t -> t.lineChar(i, 0));
+            Checks.changesNothing("lineChar(0, " + i + ")", LinesTest::inAlternate, t -> t.lineChar(0, i));
+        }
     }
 
     public static void main(String[] args) {
-        texts();
-        ranges();
-        nothingBehindTheLastRow();
-        emptyLinesAtTheEnd();
-        blankRowsInsideALine();
-        emptyWrappedLineBelowTheCursor();
-        flagOfTheLastRow();
-        lineCutAtTheFront();
-        alternateMode();
+        Checks.sentence("answers the length of the text of logical line i", LinesTest::lengths);
+        Checks.sentence("-1 unless 0 <= i < info(INFO_LINES)", LinesTest::wrongLines);
+        Checks.sentence("-1 unless 0 <= i < info(INFO_LINES) [lines that were removed]", LinesTest::removedLines);
+        Checks.sentence("-1 unless 0 <= i < info(INFO_LINES) [behind the last row]",
+            LinesTest::nothingBehindTheLastRow);
+        Checks.sentence("answers character j of the text of logical line i", LinesTest::characters);
+        Checks.sentence("-1 unless 0 <= i < info(INFO_LINES) [lineChar]", LinesTest::wrongLineOfAChar);
+        Checks.sentence("and 0 <= j < lineLength(i)", LinesTest::wrongPlaces);
+        Checks.sentence("answers the length of the text of logical line i [the longest]", LinesTest::longestLine);
+        Checks.sentence("Both read the main buffer in either mode", LinesTest::eitherMode);
+        Checks.sentence("and change nothing", LinesTest::nothingChanges);
         Checks.finish();
     }
 }
