@@ -40,6 +40,15 @@ public final class ConstructionTest {
         }
     }
 
+    private static void oneOffTheEnds() {
+        sizes(3, 1, -1, "4x2+0");
+        sizes(4, 2, 0, "4x2+0");
+        sizes(5, 3, 1, "5x3+1");
+        sizes(15, 7, 15, "15x7+15");
+        sizes(16, 8, 16, "16x8+16");
+        sizes(17, 9, 17, "16x8+16");
+    }
+
     private static void everyInt() {
         sizes(LOW, 5, 7, "4x5+7");
         sizes(HIGH, 5, 7, "16x5+7");
@@ -116,6 +125,8 @@ public final class ConstructionTest {
         Checks.sentence("sets W = width clamped into 4..16", ConstructionTest::width);
         Checks.sentence("H = height clamped into 2..8", ConstructionTest::height);
         Checks.sentence("S = scrollback clamped into 0..16", ConstructionTest::capacity);
+        Checks.sentence("a value below the least becomes the least and a value above the greatest becomes the greatest",
+            ConstructionTest::oneOffTheEnds);
         Checks.sentence("this holds for every int, including Integer.MIN_VALUE and Integer.MAX_VALUE",
             ConstructionTest::everyInt);
         Checks.sentence("It is never refused.", ConstructionTest::neverRefused);
